@@ -56,7 +56,7 @@ public final class PromiseTest {
     }
 
     private static void passTo(StretchedCarpet x, int month) {
-        while (x.count(6) < month) {
+        for (int call = 0; call < 17 && x.count(6) < month; call++) {
             x.pass(Math.min(60, month - x.count(6)));
         }
     }
