@@ -13,13 +13,7 @@ import java.util.function.Supplier;
 import java.util.function.ToIntFunction;
 
 /** Every sentence of the document that names an edge has a test of its own here, which stands below its words. */
-public final class EdgeTest {
-    private static final int BAD = StretchedCarpet.BAD;
-    private static final int NO = StretchedCarpet.NO;
-    private static final int FULL = StretchedCarpet.FULL;
-    private static final int NONE = StretchedCarpet.NONE;
-    private static final int LOWEST = Integer.MIN_VALUE;
-    private static final int HIGHEST = Integer.MAX_VALUE;
+public final class EdgeTest extends CarpetTest {
     private static final Path DOCUMENT = Path.of("../shared/DOC.md");
 
     /** The words that a test stands for, and the promise below which they stand (0: ahead of all promises). */
@@ -31,51 +25,7 @@ public final class EdgeTest {
         String value();
     }
 
-    private static String test = "";
-    private static int wrong = 0;
-
-    private static void due(String what, Object got, Object want) {
-        if (!got.equals(want)) {
-            wrong++;
-            System.out.println(test + ": " + what + " answered " + got + ", due is " + want);
-        }
-    }
-
     // ---- carpets to begin with
-
-    private static StretchedCarpet typed(String text) {
-        StretchedCarpet x = new StretchedCarpet();
-        type(x, text);
-        return x;
-    }
-
-    private static void type(StretchedCarpet x, String text) {
-        for (int i = 0; i < text.length(); i++) {
-            x.write(text.charAt(i));
-        }
-    }
-
-    private static StretchedCarpet laid(String text) {
-        StretchedCarpet x = typed(text);
-        if (x.lay() < 1) {
-            throw new IllegalStateException("no room: " + text);
-        }
-        return x;
-    }
-
-    private static StretchedCarpet withCuts(StretchedCarpet x, int... breadths) {
-        for (int b : breadths) {
-            if (x.cut(b) < 0) {
-                throw new IllegalStateException("not cut: " + b);
-            }
-        }
-        return x;
-    }
-
-    /** The room of a new object (7 STRIPS, WOOL that gives 3, 12 hold), with all its lengths: 14, 11, 13 long. */
-    private static StretchedCarpet covered() {
-        return withCuts(new StretchedCarpet(), 3, 1, 3);
-    }
 
     /** A room of one strip, covered, its hooks hold 30, its wool gives 1 (unless more is told). */
     private static StretchedCarpet small(String more) {
@@ -95,18 +45,6 @@ public final class EdgeTest {
         due("tight by " + t, x.hook(1, t + 1), t);
         x.letGo(0);
         return x;
-    }
-
-    private static StretchedCarpet passedTo(StretchedCarpet x, int month) {
-        for (int call = 0; call < 17 && x.count(6) < month; call++) {
-            x.pass(Math.min(60, month - x.count(6)));
-        }
-        due("count(6)", x.count(6), month);
-        return x;
-    }
-
-    private static String times(String item, int n) {
-        return item.repeat(n);
     }
 
     // ---- what is due
@@ -135,18 +73,6 @@ public final class EdgeTest {
         due(call + " of the highest", answer.applyAsInt(HIGHEST), BAD);
     }
 
-    private static void counts(StretchedCarpet x, int... want) {
-        for (int what = 0; what < want.length; what++) {
-            due("count(" + what + ")", x.count(what), want[what]);
-        }
-    }
-
-    private static void tight(StretchedCarpet x, int... want) {
-        for (int w = 0; w < 4; w++) {
-            due("wall(" + w + ", 0)", x.wall(w, 0), want[w]);
-        }
-    }
-
     private static void isWall(StretchedCarpet x, int w, int tight, int hooked, int torn, int waves) {
         due("wall(" + w + ", 0)", x.wall(w, 0), tight);
         due("wall(" + w + ", 1)", x.wall(w, 1), hooked);
@@ -154,32 +80,10 @@ public final class EdgeTest {
         due("wall(" + w + ", 3)", x.wall(w, 3), waves);
     }
 
-    private static void planned(StretchedCarpet x, int much, int seams, int... breadths) {
-        due("plan(-1)", x.plan(-1), much);
-        due("plan(-2)", x.plan(-2), seams);
-        for (int k = 0; k < breadths.length; k++) {
-            due("plan(" + k + ")", x.plan(k), breadths[k]);
-        }
-        due("plan(" + breadths.length + ")", x.plan(breadths.length), NONE);
-    }
-
     private static void planNone(StretchedCarpet x) {
         for (int k = -2; k <= 12; k++) {
             due("plan(" + k + ")", x.plan(k), NONE);
         }
-    }
-
-    private static void ordered(StretchedCarpet x, int much, int... walls) {
-        due("order(-1)", x.order(-1), much);
-        for (int k = 0; k < 4; k++) {
-            due("order(" + k + ")", x.order(k), k < walls.length ? walls[k] : NONE);
-        }
-    }
-
-    private static void isLikely(StretchedCarpet x, int w, int n, int by, int above, int below) {
-        String call = "likely(" + w + ", " + n + ", " + by + ", ";
-        due(call + "0)", x.likely(w, n, by, 0), above);
-        due(call + "1)", x.likely(w, n, by, 1), below);
     }
 
     private static void isYear(StretchedCarpet x, int z, int n, int torn, int tight) {
@@ -283,7 +187,7 @@ public final class EdgeTest {
 
     @Says("A TEXT is letters (200 at most)")
     private static void twoHundredLettersAreRead() {
-        StretchedCarpet x = typed(times("s9,1,2;", 12) + times("d7;", 12) + times("o1;", 25) + "r1,9;");
+        StretchedCarpet x = typed("s9,1,2;".repeat(12) + "d7;".repeat(12) + "o1;".repeat(25) + "r1,9;");
         due("count(10)", x.count(10), 200);
         due("fault()", x.fault(), NONE);
         due("lay()", x.lay(), 12);
@@ -292,7 +196,7 @@ public final class EdgeTest {
 
     @Says("A TEXT is letters (200 at most)")
     private static void anItemBrokenOffByTheLastLetter() {
-        StretchedCarpet x = typed("s1,0,0;" + times("o1;", 64) + "o");
+        StretchedCarpet x = typed("s1,0,0;" + "o1;".repeat(64) + "o");
         due("count(10)", x.count(10), 200);
         due("write(';')", x.write(';'), FULL);
         due("fault()", x.fault(), 199);
@@ -391,7 +295,7 @@ public final class EdgeTest {
 
     @Says("12 at most, 0, 1, .. from left to right")
     private static void twelveStrips() {
-        StretchedCarpet x = typed(times("s5,1,2;", 11) + "s7,3,4;");
+        StretchedCarpet x = typed("s5,1,2;".repeat(11) + "s7,3,4;");
         due("fault()", x.fault(), NONE);
         due("lay()", x.lay(), 12);
         due("strip(11, 0)", x.strip(11, 0), 7);
@@ -399,7 +303,7 @@ public final class EdgeTest {
         type(x, "s1,1,1;");
         due("fault(), 13", x.fault(), 84);
         due("lay(), 13", x.lay(), NO);
-        faultAt(times("s5,1,2;", 12) + "o1;s5,1,2;x", 87);
+        faultAt("s5,1,2;".repeat(12) + "o1;s5,1,2;x", 87);
     }
 
     @Says("the ROLL is B (1 to 6) STRIPS broad")
@@ -564,7 +468,7 @@ public final class EdgeTest {
         faultAt("s1,0,0;s1,0,10;s0,0,0;", 7);
         faultAt("s1,0,0;r6,99;r6,9", 13);
         faultAt("o1;o2;o3;o", 9);
-        faultAt(times("o1;", 66) + "~", 198);
+        faultAt("o1;".repeat(66) + "~", 198);
     }
 
     // ---- laid
@@ -602,7 +506,7 @@ public final class EdgeTest {
     @Says("for b (1 to B) of them")
     private static void asBroadAsTheRollAndBroader() {
         for (int broad = 1; broad <= 6; broad++) {
-            String text = times("s4,0,0;", 6) + "r" + broad + ",60;";
+            String text = "s4,0,0;".repeat(6) + "r" + broad + ",60;";
             for (int b = 1; b <= 6; b++) {
                 due("cut(" + b + ") of " + broad, laid(text).cut(b), b <= broad ? 6 : NO);
             }
@@ -640,7 +544,7 @@ public final class EdgeTest {
 
     @Says("the rest of the breadth (B less b STRIPS broad) is a REST that long")
     private static void noRestAndTheBroadestOne() {
-        StretchedCarpet x = withCuts(laid(times("s4,0,0;", 7) + "r6,60;o1;"), 6);
+        StretchedCarpet x = withCuts(laid("s4,0,0;".repeat(7) + "r6,60;o1;"), 6);
         due("left(0), as broad as the ROLL", x.left(0), 0);
         due("hall(1, 1), no REST", x.hall(1, 1), 2);
         x.cut(1);
@@ -652,7 +556,7 @@ public final class EdgeTest {
 
     @Says("Where one LENGTH ends and another one begins is a SEAM")
     private static void noSeamAtTheEnds() {
-        StretchedCarpet x = laid(times("s4,0,0;", 4));
+        StretchedCarpet x = laid("s4,0,0;".repeat(4));
         int[][] seams = {{0, 0, 0, 0}, {0, 0, 0, 0}, {1, 0, 0, 0}, {1, 0, 1, 0}};
         int[] breadths = {1, 2, 1};
         for (int cut = 0; cut <= 3; cut++) {
@@ -1101,15 +1005,15 @@ public final class EdgeTest {
 
     @Says("then the first (by the breadth of the first LENGTH, the least, then ..)")
     private static void theFirstOfSeveralWays() {
-        planned(laid(times("s5,0,0;", 4) + "r3,60;o0;"), 10, 0, 1, 3);
-        planned(laid(times("s5,1,1;", 5) + "r2,60;"), 21, 4, 1, 2, 2);
-        planned(laid("s5,9,9;" + times("s5,0,0;", 6) + "r3,60;o0;"), 15, 0, 2, 2, 3);
-        planned(withCuts(laid(times("s5,1,1;", 6) + "r3,60;o0;"), 2), 10, 4, 1, 3);
+        planned(laid("s5,0,0;".repeat(4) + "r3,60;o0;"), 10, 0, 1, 3);
+        planned(laid("s5,1,1;".repeat(5) + "r2,60;"), 21, 4, 1, 2, 2);
+        planned(laid("s5,9,9;" + "s5,0,0;".repeat(6) + "r3,60;o0;"), 15, 0, 2, 2, 3);
+        planned(withCuts(laid("s5,1,1;".repeat(6) + "r3,60;o0;"), 2), 10, 4, 1, 3);
     }
 
     @Says("of all ways to cut LENGTHS for all STRIPS that have none")
     private static void ofTheRoomThatIsLaidNow() {
-        StretchedCarpet x = laid(times("s9,9,9;", 12) + "r1,99;o0;");
+        StretchedCarpet x = laid("s9,9,9;".repeat(12) + "r1,99;o0;");
         planNone(x);
         x.wipe();
         type(x, "s5,1,0;s6,0,0;r1,20;o0;");
@@ -1120,9 +1024,9 @@ public final class EdgeTest {
     @Says("none (the ROLL does for no way)")
     private static void noWay() {
         planNone(laid("s40,0,0;r1,1;o0;"));
-        planNone(laid(times("s40,9,9;", 12) + "r6,84;o3;"));
-        planned(laid(times("s40,9,9;", 12) + "r6,86;o3;"), 86, 18, 6, 6);
-        planned(laid(times("s40,9,9;", 12) + "r6,99;o5;"), 90, 18, 6, 6);
+        planNone(laid("s40,9,9;".repeat(12) + "r6,84;o3;"));
+        planned(laid("s40,9,9;".repeat(12) + "r6,86;o3;"), 86, 18, 6, 6);
+        planned(laid("s40,9,9;".repeat(12) + "r6,99;o5;"), 90, 18, 6, 6);
     }
 
     @Says("(0, 0, if all STRIPS have one.)")
@@ -1243,11 +1147,11 @@ public final class EdgeTest {
         due("waves(), by 1", x.waves(), 0);
         due("waves(), dry", hooked("d2;").waves(), NONE);
         // by 1 less in each twelfth month: behind 12, 24, 36, 48, 60 months, if it was month 0
-        String twelfth = times("d0;", 11) + "d3;";
+        String twelfth = "d0;".repeat(11) + "d3;";
         due("waves(), behind 60", tightBy(6, twelfth).waves(), 60);
         due("waves(), behind 72", tightBy(7, twelfth).waves(), NONE);
         // behind 1, 13, 25, 37, 49, 61 months
-        String first = "d3;" + times("d0;", 11);
+        String first = "d3;" + "d0;".repeat(11);
         due("waves(), behind 61", tightBy(7, first).waves(), NONE);
         due("waves(), behind 49", tightBy(6, first).waves(), 49);
         StretchedCarpet y = tightBy(7, first);
@@ -1275,7 +1179,7 @@ public final class EdgeTest {
     @Says("(of HOOKED ones; never in 60 MONTHS counts most)")
     private static void neverCountsMost() {
         // by 1 less in each twelfth month: 6 WAVES behind 60 months, 7 behind 72, 8 behind 84
-        String twelfth = times("d0;", 11) + "d3;";
+        String twelfth = "d0;".repeat(11) + "d3;";
         StretchedCarpet x = small(twelfth);
         x.hook(2, 0);
         x.hook(1, 8);
@@ -1436,7 +1340,7 @@ public final class EdgeTest {
         x.cut(1);
         due("left(0)", x.left(0), 6);
         due("left(1), none", x.left(1), 0);
-        StretchedCarpet most = laid(times("s1,0,0;", 11) + "s40,0,0;r6,99;o0;");
+        StretchedCarpet most = laid("s1,0,0;".repeat(11) + "s40,0,0;r6,99;o0;");
         due("left(1), the most", most.left(1), 594);
         for (int i = 0; i < 12; i++) {
             most.cut(1);
@@ -1653,7 +1557,7 @@ public final class EdgeTest {
     @Says("BAD: a number is none that is told (STRIPS, WALLS: such as there are).")
     private static void suchStripsAndWallsAsThereAre() {
         for (int strips = 1; strips <= 12; strips++) {
-            StretchedCarpet x = laid(times("s5,1,2;", strips));
+            StretchedCarpet x = laid("s5,1,2;".repeat(strips));
             told("strip(s, 0)", 0, strips - 1, s -> x.strip(s, 0));
         }
         StretchedCarpet x = covered();
@@ -1694,7 +1598,7 @@ public final class EdgeTest {
         due("order(-1)", none.order(-1), NONE);
         due("order(-2), none", none.order(-2), BAD);
         due("order(4), none", none.order(4), BAD);
-        StretchedCarpet full = typed(times("o1;", 66) + "o1");
+        StretchedCarpet full = typed("o1;".repeat(66) + "o1");
         due("write(127), full", full.write(127), BAD);
         due("write(31), full", full.write(31), BAD);
         due("write(32), full", full.write(32), FULL);
@@ -1806,7 +1710,7 @@ public final class EdgeTest {
 
     @Says(promise = 2, value = "BAD; FULL.")
     private static void noLetterMore() {
-        StretchedCarpet x = typed(times("s9,1,2;", 12) + times("o1;", 38) + "o0");
+        StretchedCarpet x = typed("s9,1,2;".repeat(12) + "o1;".repeat(38) + "o0");
         String before = stand(x);
         due("write(';'), 200 are written", x.write(';'), FULL);
         due("stand", stand(x), before);
@@ -1938,7 +1842,7 @@ public final class EdgeTest {
         withCuts(x, 1, 3);
         due("strip(3, 3)", x.strip(3, 3), 1);
         due("strip(6, 3)", x.strip(6, 3), 2);
-        StretchedCarpet y = laid(times("s1,0,0;", 12));
+        StretchedCarpet y = laid("s1,0,0;".repeat(12));
         for (int s = 0; s < 12; s++) {
             y.cut(1);
             due("strip(" + s + ", 3)", y.strip(s, 3), s);
@@ -1997,20 +1901,20 @@ public final class EdgeTest {
 
     @Says(promise = 9, value = "BAD (b: 1 to 6)")
     private static void breadths() {
-        told("cut(b)", 1, 6, b -> laid(times("s1,0,0;", 6) + "r6,9;").cut(b));
+        told("cut(b)", 1, 6, b -> laid("s1,0,0;".repeat(6) + "r6,9;").cut(b));
         due("cut(6), broader, not BAD", new StretchedCarpet().cut(6), NO);
     }
 
     @Says(promise = 9, value = "NO: broader than the ROLL")
     private static void broaderThanTheRoll() {
-        StretchedCarpet x = laid(times("s5,0,0;", 6) + "r2,60;");
+        StretchedCarpet x = laid("s5,0,0;".repeat(6) + "r2,60;");
         due("cut(3)", x.cut(3), NO);
         due("cut(2)", x.cut(2), 7);
     }
 
     @Says(promise = 9, value = "fewer STRIPS are left")
     private static void fewerStripsAreLeft() {
-        StretchedCarpet x = laid(times("s5,0,0;", 3) + "r6,60;");
+        StretchedCarpet x = laid("s5,0,0;".repeat(3) + "r6,60;");
         due("cut(4), of 3", x.cut(4), NO);
         x.cut(1);
         due("cut(3), of 2", x.cut(3), NO);
@@ -2124,7 +2028,7 @@ public final class EdgeTest {
     @Says(promise = 14, value = "(0 first; NONE: there are not so many)")
     private static void notSoManyLengths() {
         planned(new StretchedCarpet(), 38, 14, 3, 1, 3);
-        StretchedCarpet x = laid(times("s1,1,1;", 12) + "r1,60;");
+        StretchedCarpet x = laid("s1,1,1;".repeat(12) + "r1,60;");
         planned(x, 36, 22, 1, 1, 1, 1, 1, 1, 1, 1, 1, 1, 1, 1);
         for (int k = 12; k <= 40; k++) {
             due("plan(" + k + ")", x.plan(k), NONE);
@@ -2357,7 +2261,7 @@ public final class EdgeTest {
     private static void theLeastAndTheMostOfEach() {
         told("count(what)", 0, 10, new StretchedCarpet()::count);
         counts(laid("s1,0,0;"), 1, 0, 60, 0, 0, 0, 0, 0, 0, 0, 7);
-        StretchedCarpet x = laid(times("s1,0,0;", 12) + "r1,12;o0;h2;" + times("k1,1;", 19) + times("d0;", 3));
+        StretchedCarpet x = laid("s1,0,0;".repeat(12) + "r1,12;o0;h2;" + "k1,1;".repeat(19) + "d0;".repeat(3));
         for (int s = 0; s < 12; s++) {
             x.cut(1);
         }
@@ -2427,9 +2331,6 @@ public final class EdgeTest {
             }
         }
         due("tests", tests > 0, true);
-        System.out.println(wrong == 0 ? "all answers are as due" : wrong + " answers are not as due");
-        if (wrong != 0) {
-            System.exit(1);
-        }
+        end();
     }
 }

@@ -1,84 +1,12 @@
 /** Each promise of the document by itself: ordinary calls, the edges that it names, wrong calls. */
-public final class PromiseTest {
-    private static final int BAD = StretchedCarpet.BAD;
-    private static final int NO = StretchedCarpet.NO;
-    private static final int FULL = StretchedCarpet.FULL;
-    private static final int NONE = StretchedCarpet.NONE;
-    private static final int LOWEST = Integer.MIN_VALUE;
-    private static final int HIGHEST = Integer.MAX_VALUE;
-
-    private static int promise = 0;
-    private static int wrong = 0;
-
-    private static void due(String what, int got, int want) {
-        if (got != want) {
-            wrong++;
-            System.out.println("promise " + promise + ": " + what + " answered " + got + ", due is " + want);
-        }
-    }
-
+public final class PromiseTest extends CarpetTest {
     // ---- carpets to begin with
-
-    private static StretchedCarpet typed(String text) {
-        StretchedCarpet x = new StretchedCarpet();
-        type(x, text);
-        return x;
-    }
-
-    private static void type(StretchedCarpet x, String text) {
-        for (int i = 0; i < text.length(); i++) {
-            x.write(text.charAt(i));
-        }
-    }
-
-    private static StretchedCarpet laid(String text) {
-        StretchedCarpet x = typed(text);
-        if (x.lay() < 1) {
-            throw new IllegalStateException("no room: " + text);
-        }
-        return x;
-    }
-
-    /** The room of a new object, with all its lengths: 14, 11 and 13 long. */
-    private static StretchedCarpet covered() {
-        StretchedCarpet x = new StretchedCarpet();
-        x.cut(3);
-        x.cut(1);
-        x.cut(3);
-        return x;
-    }
 
     /** A room of one strip, covered, with more told of it. */
     private static StretchedCarpet small(String more) {
         StretchedCarpet x = laid("s9,0,0;o0;" + more);
         x.cut(1);
         return x;
-    }
-
-    private static void passTo(StretchedCarpet x, int month) {
-        for (int call = 0; call < 17 && x.count(6) < month; call++) {
-            x.pass(Math.min(60, month - x.count(6)));
-        }
-    }
-
-    private static String times(String item, int n) {
-        StringBuilder text = new StringBuilder();
-        for (int i = 0; i < n; i++) {
-            text.append(item);
-        }
-        return text.toString();
-    }
-
-    private static void counts(StretchedCarpet x, int... want) {
-        for (int i = 0; i < want.length; i++) {
-            due("count(" + i + ")", x.count(i), want[i]);
-        }
-    }
-
-    private static void tight(StretchedCarpet x, int... want) {
-        for (int w = 0; w < 4; w++) {
-            due("wall(" + w + ", 0)", x.wall(w, 0), want[w]);
-        }
     }
 
     // ---- rooms
@@ -160,8 +88,8 @@ public final class PromiseTest {
     private static void fault() {
         String[] so = {
             "", "s1,0,0;", "s40,9,9;", "s01,09,00;", "r1,1;", "r6,99;", "r06,01;", "o0;", "o5;", "h1;", "h30;", "k0,1;",
-            "k3,9;", "d0;", "d9;", "d09;", "r1,1;r2,2;o1;o2;h3;h4;k0,1;k1,1;", times("s9,1,2;", 12), times("d7;", 12),
-            times("o1;", 66),
+            "k3,9;", "d0;", "d9;", "d09;", "r1,1;r2,2;o1;o2;h3;h4;k0,1;k1,1;", "s9,1,2;".repeat(12), "d7;".repeat(12),
+            "o1;".repeat(66),
         };
         for (String text : so) {
             faultAt(text, NONE);
@@ -181,10 +109,10 @@ public final class PromiseTest {
         faultAt("s1,0,0;x1;", 7);
         faultAt("d4;o6;h0;", 3);
         faultAt("r1,1;r0,2;r3,3;", 5);
-        faultAt(times("s9,1,2;", 13), 84);
-        faultAt(times("d7;", 13), 36);
-        faultAt(times("d7;", 12) + "o1;d7;", 39);
-        faultAt(times("o1;", 66) + "o1", 198);
+        faultAt("s9,1,2;".repeat(13), 84);
+        faultAt("d7;".repeat(13), 36);
+        faultAt("d7;".repeat(12) + "o1;d7;", 39);
+        faultAt("o1;".repeat(66) + "o1", 198);
         StretchedCarpet x = typed("s1,0,0");
         due("fault()", x.fault(), 0);
         x.write(';');
@@ -356,7 +284,7 @@ public final class PromiseTest {
         due("cut(1)", z.cut(1), 7);
         due("cut(1), to the end", z.cut(1), 7);
         due("count(2)", z.count(2), 0);
-        due("cut(6) of 6", laid(times("s1,0,0;", 6) + "r6,9;o0;").cut(6), 1);
+        due("cut(6) of 6", laid("s1,0,0;".repeat(6) + "r6,9;o0;").cut(6), 1);
     }
 
     private static void hook() {
@@ -450,7 +378,7 @@ public final class PromiseTest {
         due("count(6)", x.count(6), 5);
         StretchedCarpet y = new StretchedCarpet();
         due("pass(60), no length", y.pass(60), 60);
-        passTo(y, 960);
+        passedTo(y, 960);
         due("pass(40), above 999", y.pass(40), NO);
         due("pass(61), above 999", y.pass(61), BAD);
         due("pass(39)", y.pass(39), 999);
@@ -538,7 +466,7 @@ public final class PromiseTest {
         // what is cut over tells against many lengths
         planned(laid("s9,9,9;s2,0,0;s2,0,0;r3,60;o5;"), 14, 0, 3);
         planned(laid("s4,0,0;s4,0,0;r1,8;o0;"), 8, 0, 1, 1);
-        planned(laid(times("s1,1,1;", 12) + "r1,60;"), 36, 22, 1, 1, 1, 1, 1, 1, 1, 1, 1, 1, 1, 1);
+        planned(laid("s1,1,1;".repeat(12) + "r1,60;"), 36, 22, 1, 1, 1, 1, 1, 1, 1, 1, 1, 1, 1, 1);
 
         StretchedCarpet none = laid("s4,0,0;s4,0,0;r1,7;o0;");
         for (int k = -2; k < 3; k++) {
@@ -555,15 +483,6 @@ public final class PromiseTest {
         type(again, "s5,1,0;s6,0,0;r1,20;o0;");
         again.lay();
         planned(again, 11, 1, 1, 1);
-    }
-
-    private static void planned(StretchedCarpet x, int much, int seams, int... breadths) {
-        due("plan(-1)", x.plan(-1), much);
-        due("plan(-2)", x.plan(-2), seams);
-        for (int k = 0; k < breadths.length; k++) {
-            due("plan(" + k + ")", x.plan(k), breadths[k]);
-        }
-        due("plan(" + breadths.length + ")", x.plan(breadths.length), NONE);
     }
 
     private static void order() {
@@ -621,13 +540,6 @@ public final class PromiseTest {
         ordered(torn, 0);
     }
 
-    private static void ordered(StretchedCarpet x, int much, int... walls) {
-        due("order(-1)", x.order(-1), much);
-        for (int k = 0; k < 4; k++) {
-            due("order(" + k + ")", x.order(k), k < walls.length ? walls[k] : NONE);
-        }
-    }
-
     private static void kickFor() {
         StretchedCarpet x = new StretchedCarpet();
         due("kickFor(3, 0), none hooked", x.kickFor(3, 0), 0);
@@ -681,7 +593,7 @@ public final class PromiseTest {
         StretchedCarpet dry = small("d2;d1;");
         dry.hook(0, 0);
         due("waves(), dry", dry.waves(), NONE);
-        StretchedCarpet late = small("k1,1;" + times("d0;", 11) + "d3;");
+        StretchedCarpet late = small("k1,1;" + "d0;".repeat(11) + "d3;");
         late.hook(0, 0);
         late.hook(1, 7);
         late.letGo(0);
@@ -692,7 +604,7 @@ public final class PromiseTest {
         late.letGo(0);
         due("waves(), behind 72", late.waves(), NONE);
         StretchedCarpet end = small("d2;d9;");
-        passTo(end, 998);
+        passedTo(end, 998);
         end.hook(0, 0);
         due("waves(), at 998", end.waves(), 2);
         end.pass(1);
@@ -722,7 +634,7 @@ public final class PromiseTest {
         dry.hook(2, 20);
         due("longest(), both never", dry.longest(), 2);
         // wall 0 waves behind 60 months, walls 1 and 3 behind 72 and 84: never counts alike
-        StretchedCarpet late = small("h30;k1,1;" + times("d0;", 11) + "d3;");
+        StretchedCarpet late = small("h30;k1,1;" + "d0;".repeat(11) + "d3;");
         late.hook(2, 0);
         late.hook(1, 8);
         late.hook(3, 6);
@@ -891,12 +803,6 @@ public final class PromiseTest {
         due("likely(0, 1, 5, 2)", x.likely(0, 1, 5, 2), BAD);
     }
 
-    private static void isLikely(StretchedCarpet x, int w, int n, int by, int above, int below) {
-        String call = "likely(" + w + ", " + n + ", " + by + ", ";
-        due(call + "0)", x.likely(w, n, by, 0), above);
-        due(call + "1)", x.likely(w, n, by, 1), below);
-    }
-
     private static void year() {
         StretchedCarpet bare = new StretchedCarpet();
         due("year(0, 1, 0), no length", bare.year(0, 1, 0), NO);
@@ -923,7 +829,7 @@ public final class PromiseTest {
         due("year(0, 1, 0), torn before", weak.year(0, 1, 0), 2);
         due("year(9999, 40, 0)", weak.year(9999, 40, 0), 4);
         StretchedCarpet end = covered();
-        passTo(end, 999);
+        passedTo(end, 999);
         due("year(0, 1, 1), at 999", end.year(0, 1, 1), 2);
         StretchedCarpet known = covered();
         years(known, 1, 0, 2, 0, 12, 0, 20, 0, 14, 1, 2, 1, 0);
@@ -1051,13 +957,10 @@ public final class PromiseTest {
             PromiseTest::may, PromiseTest::hall, PromiseTest::left, PromiseTest::likely, PromiseTest::year,
             PromiseTest::keep, PromiseTest::back, PromiseTest::count,
         };
-        for (Runnable each : promises) {
-            promise++;
-            each.run();
+        for (int i = 0; i < promises.length; i++) {
+            test = "promise " + (i + 1);
+            promises[i].run();
         }
-        System.out.println(wrong == 0 ? "all answers are as due" : wrong + " answers are not as due");
-        if (wrong != 0) {
-            System.exit(1);
-        }
+        end();
     }
 }
